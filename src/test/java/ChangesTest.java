@@ -97,6 +97,8 @@ public final class ChangesTest {
         Due.is("replaceOld by the same", 1, () -> rows.replaceOld(0, 8, 8));
         Due.is("replaceOld in none", 0, () -> rows.replaceOld(4, 8, 9));
         Due.is("replaceOld: the row stays", "1 2 8 8 0 1", () -> rows.text(0));
+        Due.is("replaceOld of the first and the last", 1, () -> rows.replaceOld(0, 1, -99));
+        Due.is("replaceOld of the first and the last: the row", "-99 2 8 8 0 -99", () -> rows.text(0));
         Due.isIllegal("replaceOld of 100", rows, () -> rows.replaceOld(0, 100, 0));
         Due.isIllegal("replaceOld by -100", rows, () -> rows.replaceOld(0, 0, -100));
     }

@@ -130,6 +130,7 @@ public final class ListsTest {
         Due.is("often nothing", 2, () -> rows.often(0, Due.NOTHING));
         Due.is("often nothing in a part", 1, () -> rows.often(3, Due.NOTHING));
         Due.is("often a zero, not nothing", 1, () -> rows.often(0, 0));
+        Due.is("often the first", 1, () -> rows.often(0, 7));
         Due.is("often not", 0, () -> rows.often(0, -99));
     }
 
@@ -190,6 +191,11 @@ public final class ListsTest {
         Due.is("indexOfAll in none", Due.NONE, () -> rows.indexOfAll(3, 2));
         Due.is("indexOfAll of a longer one", Due.NONE, () -> rows.indexOfAll(1, 0));
         Due.is("indexOfAll at the end", 2, () -> rows.indexOfAll(1, 5));
+        rows.part(6, 0, 0, 5);
+        Due.is("indexOfAll that ends behind the part, in the row", 1, () -> rows.indexOfAll(6, 1));
+        rows.set(6, 1, 0);
+        Due.is("indexOfAll that only ends behind the part", Due.NONE, () -> rows.indexOfAll(6, 1));
+        Due.is("indexOfAll behind the part", 4, () -> rows.indexOfAll(0, 1));
         Due.is("indexOfAll of itself", 0, () -> rows.indexOfAll(0, 0));
     }
 

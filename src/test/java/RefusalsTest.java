@@ -67,6 +67,8 @@ public final class RefusalsTest {
         Due.isRefused("addAll", rows, () -> rows.addAll(0, 3));
         Due.isRefused("addAll of itself", rows, () -> rows.addAll(3, 3));
         Due.isRefused("addAll to none", rows, () -> rows.addAll(4, 0));
+        rows.part(5, 0, 2, 3);
+        Due.isRefused("addAll of one", rows, () -> rows.addAll(0, 5));
         Due.isNeedless("addAll of none", rows, () -> rows.addAll(0, 4));
         Due.isNeedless("addAll of none to none", rows, () -> rows.addAll(4, 4));
     }
@@ -141,6 +143,8 @@ public final class RefusalsTest {
         rows.lay(2, 0);
         Due.isRefused("clear", rows, () -> rows.clear(0));
         Due.isRefused("clear a part", rows, () -> rows.clear(3));
+        rows.part(5, 0, 2, 3);
+        Due.isRefused("clear one", rows, () -> rows.clear(5));
         Due.isNeedless("clear none", rows, () -> rows.clear(4));
         Due.isNeedless("clear a row of none", rows, () -> rows.clear(2));
     }
