@@ -1,10 +1,8 @@
 /** Promises 23 to 30: what changes values. */
 public final class ChangesTest {
     public static void main(String[] args) {
-        noSuchList();
         walkSet();
         replaceAll();
-        wrongRules();
         replaceOld();
         fill();
         sort();
@@ -12,22 +10,6 @@ public final class ChangesTest {
         rotate();
         swap();
         Due.end();
-    }
-
-    private static void noSuchList() {
-        Twinrow rows = new Twinrow();
-        rows.part(4, 1, 0, 2);
-        for (int list : new int[] {-1, 3, 7, Integer.MIN_VALUE, Integer.MAX_VALUE}) {
-            Due.isOutOfBounds("walkSet of " + list, rows, () -> rows.walkSet(list, -1, 4, 100, true));
-            Due.isOutOfBounds("replaceAll of " + list, rows, () -> rows.replaceAll(list, 4, 100));
-            Due.isOutOfBounds("replaceOld of " + list, rows, () -> rows.replaceOld(list, 100, 100));
-            Due.isOutOfBounds("fill of " + list, rows, () -> rows.fill(list, 100));
-            Due.isOutOfBounds("sort of " + list, rows, () -> rows.sort(list, true));
-            Due.isOutOfBounds("reverse of " + list, rows, () -> rows.reverse(list));
-            Due.isOutOfBounds("rotate of " + list, rows, () -> rows.rotate(list, 100));
-            Due.isOutOfBounds("swap of " + list, rows, () -> rows.swap(list, 0, 0));
-        }
-        Due.isOutOfBounds("sort of a part", rows, () -> rows.sort(4, false));
     }
 
     private static void walkSet() {
@@ -44,8 +26,6 @@ public final class ChangesTest {
         Due.is("walkSet at the end", 0, () -> rows.walkSet(0, 5, 0, 1, false));
         Due.is("walkSet back at the beginning", 0, () -> rows.walkSet(0, 0, 0, 1, true));
         Due.is("walkSet: none given, none set", "-3 -6 - 14 15", () -> rows.text(0));
-        Due.isIllegal("walkSet from -1", rows, () -> rows.walkSet(0, -1, 0, 0, true));
-        Due.isIllegal("walkSet from behind the end", rows, () -> rows.walkSet(3, 4, 0, 0, true));
     }
 
     private static void replaceAll() {
@@ -72,18 +52,6 @@ public final class ChangesTest {
         Due.is(what + ": the row", want, () -> rows.text(1));
     }
 
-    private static void wrongRules() {
-        Twinrow rows = new Twinrow();
-        for (int rule : new int[] {-1, 4, Integer.MIN_VALUE, Integer.MAX_VALUE}) {
-            Due.isIllegal("replaceAll by rule " + rule, rows, () -> rows.replaceAll(0, rule, 0));
-            Due.isIllegal("walkSet by rule " + rule, rows, () -> rows.walkSet(0, 0, rule, 0, false));
-        }
-        for (int number : new int[] {-100, 100, Due.NOTHING, Integer.MIN_VALUE, Integer.MAX_VALUE}) {
-            Due.isIllegal("replaceAll with " + number, rows, () -> rows.replaceAll(0, 0, number));
-            Due.isIllegal("walkSet with " + number, rows, () -> rows.walkSet(0, 0, 0, number, false));
-        }
-    }
-
     private static void replaceOld() {
         Twinrow rows = Due.with(0, 1, 2, 1, Due.NOTHING, 0, 1);
         rows.part(3, 0, 1, 5);
@@ -99,8 +67,6 @@ public final class ChangesTest {
         Due.is("replaceOld: the row stays", "1 2 8 8 0 1", () -> rows.text(0));
         Due.is("replaceOld of the first and the last", 1, () -> rows.replaceOld(0, 1, -99));
         Due.is("replaceOld of the first and the last: the row", "-99 2 8 8 0 -99", () -> rows.text(0));
-        Due.isIllegal("replaceOld of 100", rows, () -> rows.replaceOld(0, 100, 0));
-        Due.isIllegal("replaceOld by -100", rows, () -> rows.replaceOld(0, 0, -100));
     }
 
     private static void fill() {
@@ -113,8 +79,6 @@ public final class ChangesTest {
         Due.is("fill none: the row", "1 - - 4", () -> rows.text(2));
         Due.is("fill", 4, () -> rows.fill(2, -99));
         Due.is("fill: the row", "-99 -99 -99 -99", () -> rows.text(2));
-        Due.isIllegal("fill 100", rows, () -> rows.fill(2, 100));
-        Due.isIllegal("fill -101", rows, () -> rows.fill(3, -101));
     }
 
     private static void sort() {
@@ -165,8 +129,6 @@ public final class ChangesTest {
         Due.is("rotate by -99", 5, () -> rows.rotate(0, -99));
         Due.is("rotate by -99: the row", "5 3 1 2 4", () -> rows.text(0));
         Due.is("rotate none", 0, () -> rows.rotate(4, 7));
-        Due.isIllegal("rotate by 100", rows, () -> rows.rotate(0, 100));
-        Due.isIllegal("rotate by -100", rows, () -> rows.rotate(4, -100));
     }
 
     private static void swap() {
@@ -179,9 +141,5 @@ public final class ChangesTest {
         Due.is("swap of like ones", 0, () -> rows.swap(0, 2, 3));
         Due.is("swap with itself", 0, () -> rows.swap(0, 1, 1));
         Due.is("swap: the row stays", "- 1 2 2", () -> rows.text(0));
-        Due.isOutOfBounds("swap one behind the end", rows, () -> rows.swap(3, 3, 0));
-        Due.isOutOfBounds("swap other behind the end", rows, () -> rows.swap(3, 0, 3));
-        Due.isOutOfBounds("swap one ahead", rows, () -> rows.swap(0, -1, 0));
-        Due.isOutOfBounds("swap other ahead", rows, () -> rows.swap(0, 0, -1));
     }
 }

@@ -44,6 +44,12 @@ final class Due {
         same(what + " changes nothing", String.valueOf(before), String.valueOf(rows.digest()));
     }
 
+    /** The call throws nothing. */
+    static void isLet(String what, Call call) {
+        String got = told(call);
+        same(what + " is let", "", got.startsWith("throws ") ? got : "");
+    }
+
     /** The call is refused, which is counted, and changes nothing else. */
     static void isRefused(String what, Twinrow rows, Call call) {
         leavesLists(what, REFUSED, 1, rows, call);
@@ -62,14 +68,14 @@ final class Due {
         same(what + " changes no list", before, state(rows));
     }
 
-    /** All of the object but house() 1. */
+    /** All of the object but house() 1; by few calls, as an object is used for at most 512. */
     static String state(Twinrow rows) {
         StringBuilder text = new StringBuilder();
         for (int list = 0; list < 7; list++) {
-            text.append(rows.rowOf(list)).append('@').append(rows.begin(list)).append('[');
-            text.append(rows.rowOf(list) == NONE ? "gone" : rows.text(list)).append("] ");
+            int begin = list < 3 ? 0 : rows.begin(list);
+            text.append(begin == NONE ? "gone" : rows.text(list) + "@" + rows.rowOf(list) + ":" + begin).append(", ");
         }
-        return text.append(rows.house(0)).append(' ').append(rows.house(2)).append(' ').append(rows.house(3)).toString();
+        return text.append(rows.house(0)).toString();
     }
 
     static void same(String what, String want, String got) {

@@ -1,13 +1,11 @@
 /** Promises 6 to 22: what a list sets and tells. */
 public final class ListsTest {
     public static void main(String[] args) {
-        noSuchList();
         set();
         get();
         lengthAndIsEmpty();
         textAndBack();
         searchesOfOne();
-        wrongValues();
         hasAll();
         areApart();
         indexOfAll();
@@ -16,34 +14,6 @@ public final class ListsTest {
         walk();
         sum();
         Due.end();
-    }
-
-    private static void noSuchList() {
-        Twinrow rows = new Twinrow();
-        rows.part(6, 1, 0, 2);
-        for (int list : new int[] {-1, 3, 7, Integer.MIN_VALUE, Integer.MAX_VALUE}) {
-            Due.isOutOfBounds("set of " + list, rows, () -> rows.set(list, 0, 100));
-            Due.isOutOfBounds("get of " + list, rows, () -> rows.get(list, 0));
-            Due.isOutOfBounds("length of " + list, rows, () -> rows.length(list));
-            Due.isOutOfBounds("isEmpty of " + list, rows, () -> rows.isEmpty(list));
-            Due.isOutOfBounds("text of " + list, rows, () -> rows.text(list));
-            Due.isOutOfBounds("back of " + list, rows, () -> rows.back(list));
-            Due.isOutOfBounds("indexOf of " + list, rows, () -> rows.indexOf(list, 100));
-            Due.isOutOfBounds("lastIndexOf of " + list, rows, () -> rows.lastIndexOf(list, 100));
-            Due.isOutOfBounds("has of " + list, rows, () -> rows.has(list, 100));
-            Due.isOutOfBounds("often of " + list, rows, () -> rows.often(list, 100));
-            Due.isOutOfBounds("hasAll of " + list, rows, () -> rows.hasAll(list, 0));
-            Due.isOutOfBounds("hasAll in " + list, rows, () -> rows.hasAll(0, list));
-            Due.isOutOfBounds("areApart of " + list, rows, () -> rows.areApart(list, 0));
-            Due.isOutOfBounds("areApart to " + list, rows, () -> rows.areApart(0, list));
-            Due.isOutOfBounds("indexOfAll of " + list, rows, () -> rows.indexOfAll(list, 0));
-            Due.isOutOfBounds("indexOfAll in " + list, rows, () -> rows.indexOfAll(0, list));
-            Due.isOutOfBounds("areEqual of " + list, rows, () -> rows.areEqual(list, 0));
-            Due.isOutOfBounds("areEqual to " + list, rows, () -> rows.areEqual(0, list));
-            Due.isOutOfBounds("code of " + list, rows, () -> rows.code(list));
-            Due.isOutOfBounds("walk of " + list, rows, () -> rows.walk(list, -1, -1, false));
-            Due.isOutOfBounds("sum of " + list, rows, () -> rows.sum(list));
-        }
     }
 
     private static void set() {
@@ -55,11 +25,6 @@ public final class ListsTest {
         Due.is("set in a part's part", 3, () -> rows.set(4, 0, Due.NOTHING));
         Due.is("set: what stood there", Due.NOTHING, () -> rows.set(3, 1, Due.NOTHING));
         Due.is("set: the row", "-99 2 - 99", () -> rows.text(0));
-        Due.isOutOfBounds("set behind the part, in the row", rows, () -> rows.set(4, 1, 0));
-        Due.isOutOfBounds("set ahead of the part, in the row", rows, () -> rows.set(4, -1, 0));
-        Due.isOutOfBounds("set place first", rows, () -> rows.set(0, 4, 100));
-        Due.isIllegal("set 100", rows, () -> rows.set(0, 0, 100));
-        Due.isIllegal("set -100", rows, () -> rows.set(3, 0, -100));
     }
 
     private static void get() {
@@ -69,9 +34,6 @@ public final class ListsTest {
         Due.is("get nothing", Due.NOTHING, () -> rows.get(5, 0));
         rows.put(1, 1, 7);
         Due.is("get what was put", 7, () -> rows.get(5, 0));
-        Due.isOutOfBounds("get behind", rows, () -> rows.get(5, 1));
-        Due.isOutOfBounds("get ahead", rows, () -> rows.get(5, -1));
-        Due.isOutOfBounds("get place 3", rows, () -> rows.get(1, 3));
     }
 
     private static void lengthAndIsEmpty() {
@@ -132,16 +94,6 @@ public final class ListsTest {
         Due.is("often a zero, not nothing", 1, () -> rows.often(0, 0));
         Due.is("often the first", 1, () -> rows.often(0, 7));
         Due.is("often not", 0, () -> rows.often(0, -99));
-    }
-
-    private static void wrongValues() {
-        Twinrow rows = new Twinrow();
-        for (int value : new int[] {100, -100, -999, -1001, 1000, Integer.MIN_VALUE, Integer.MAX_VALUE}) {
-            Due.isIllegal("indexOf " + value, rows, () -> rows.indexOf(0, value));
-            Due.isIllegal("lastIndexOf " + value, rows, () -> rows.lastIndexOf(0, value));
-            Due.isIllegal("has " + value, rows, () -> rows.has(0, value));
-            Due.isIllegal("often " + value, rows, () -> rows.often(0, value));
-        }
     }
 
     private static void hasAll() {
@@ -246,10 +198,6 @@ public final class ListsTest {
         Due.is("walk back through none", "", () -> rows.walk(4, 0, 12, true));
         Due.lay(rows, 1, 0, 0, 0, 0, 0, 0, 0, 0, 0, 0, 7, 8);
         Due.is("walk at places of two digits", "10:7 11:8", () -> rows.walk(1, 10, 12, false));
-        Due.isIllegal("walk from -1", rows, () -> rows.walk(0, -1, 0, false));
-        Due.isIllegal("walk from behind the end", rows, () -> rows.walk(3, 4, 0, true));
-        Due.isIllegal("walk 13", rows, () -> rows.walk(0, 0, 13, false));
-        Due.isIllegal("walk -1", rows, () -> rows.walk(0, 0, -1, false));
     }
 
     private static void sum() {

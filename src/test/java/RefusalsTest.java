@@ -1,7 +1,6 @@
 /** Promises 31 to 40: what is refused, as it would make a list longer or shorter. */
 public final class RefusalsTest {
     public static void main(String[] args) {
-        noSuchList();
         add();
         addAt();
         addAll();
@@ -23,32 +22,11 @@ public final class RefusalsTest {
         return rows;
     }
 
-    private static void noSuchList() {
-        Twinrow rows = rowsWithParts();
-        for (int list : new int[] {-1, 5, 7, Integer.MIN_VALUE, Integer.MAX_VALUE}) {
-            Due.isOutOfBounds("add to " + list, rows, () -> rows.add(list, 100));
-            Due.isOutOfBounds("addAt to " + list, rows, () -> rows.addAt(list, -1, 100));
-            Due.isOutOfBounds("addAll to " + list, rows, () -> rows.addAll(list, 4));
-            Due.isOutOfBounds("addAll of " + list, rows, () -> rows.addAll(0, list));
-            Due.isOutOfBounds("remove from " + list, rows, () -> rows.remove(list, 0));
-            Due.isOutOfBounds("removeValue from " + list, rows, () -> rows.removeValue(list, 100));
-            Due.isOutOfBounds("removeAll from " + list, rows, () -> rows.removeAll(list, 4));
-            Due.isOutOfBounds("removeAll of " + list, rows, () -> rows.removeAll(4, list));
-            Due.isOutOfBounds("retainAll in " + list, rows, () -> rows.retainAll(list, 4));
-            Due.isOutOfBounds("retainAll of " + list, rows, () -> rows.retainAll(4, list));
-            Due.isOutOfBounds("removeIf from " + list, rows, () -> rows.removeIf(list, 3, 100));
-            Due.isOutOfBounds("clear " + list, rows, () -> rows.clear(list));
-            Due.isOutOfBounds("walkChange in " + list, rows, () -> rows.walkChange(list, 0, 3));
-        }
-    }
-
     private static void add() {
         Twinrow rows = rowsWithParts();
         Due.isRefused("add", rows, () -> rows.add(0, 99));
         Due.isRefused("add nothing", rows, () -> rows.add(3, Due.NOTHING));
         Due.isRefused("add to none", rows, () -> rows.add(4, -99));
-        Due.isIllegal("add 100", rows, () -> rows.add(0, 100));
-        Due.isIllegal("add -100", rows, () -> rows.add(4, -100));
     }
 
     private static void addAt() {
@@ -56,10 +34,6 @@ public final class RefusalsTest {
         Due.isRefused("addAt the beginning", rows, () -> rows.addAt(3, 0, 5));
         Due.isRefused("addAt the end", rows, () -> rows.addAt(3, 2, Due.NOTHING));
         Due.isRefused("addAt in none", rows, () -> rows.addAt(4, 0, 5));
-        Due.isIllegal("addAt behind the end", rows, () -> rows.addAt(3, 3, 5));
-        Due.isIllegal("addAt -1", rows, () -> rows.addAt(3, -1, 5));
-        Due.isIllegal("addAt: 100", rows, () -> rows.addAt(3, 0, 100));
-        Due.isIllegal("addAt: -100", rows, () -> rows.addAt(3, 0, -100));
     }
 
     private static void addAll() {
@@ -77,9 +51,6 @@ public final class RefusalsTest {
         Twinrow rows = rowsWithParts();
         Due.isRefused("remove the first", rows, () -> rows.remove(3, 0));
         Due.isRefused("remove the last", rows, () -> rows.remove(0, 3));
-        Due.isOutOfBounds("remove behind the end", rows, () -> rows.remove(3, 2));
-        Due.isOutOfBounds("remove -1", rows, () -> rows.remove(3, -1));
-        Due.isOutOfBounds("remove from none", rows, () -> rows.remove(4, 0));
     }
 
     private static void removeValue() {
@@ -89,8 +60,6 @@ public final class RefusalsTest {
         Due.isNeedless("removeValue of what stands outside", rows, () -> rows.removeValue(3, 1));
         Due.isNeedless("removeValue zero, not nothing", rows, () -> rows.removeValue(3, 0));
         Due.isNeedless("removeValue in none", rows, () -> rows.removeValue(4, 2));
-        Due.isIllegal("removeValue 100", rows, () -> rows.removeValue(0, 100));
-        Due.isIllegal("removeValue -100", rows, () -> rows.removeValue(4, -100));
     }
 
     private static void removeAll() {
@@ -131,11 +100,6 @@ public final class RefusalsTest {
         Due.isNeedless("removeIf nothing, without", rows, () -> rows.removeIf(0, 0, 0));
         Due.isNeedless("removeIf below -99", rows, () -> rows.removeIf(0, 2, -99));
         Due.isRefused("removeIf below -98", rows, () -> rows.removeIf(0, 2, -98));
-        Due.isIllegal("removeIf test 3", rows, () -> rows.removeIf(0, 3, 0));
-        Due.isIllegal("removeIf test -1", rows, () -> rows.removeIf(0, -1, 0));
-        Due.isIllegal("removeIf 100", rows, () -> rows.removeIf(0, 0, 100));
-        Due.isIllegal("removeIf -100", rows, () -> rows.removeIf(4, 0, -100));
-        Due.isIllegal("removeIf it is -1000", rows, () -> rows.removeIf(0, 1, Due.NOTHING));
     }
 
     private static void clear() {
@@ -154,10 +118,5 @@ public final class RefusalsTest {
         Due.isRefused("walkChange alone", rows, () -> rows.walkChange(3, 0, 0));
         Due.isRefused("walkChange both ways", rows, () -> rows.walkChange(3, 1, 1));
         Due.isRefused("walkChange puts", rows, () -> rows.walkChange(0, 3, 2));
-        Due.isOutOfBounds("walkChange behind the end", rows, () -> rows.walkChange(3, 2, 0));
-        Due.isOutOfBounds("walkChange -1", rows, () -> rows.walkChange(3, -1, 3));
-        Due.isOutOfBounds("walkChange in none", rows, () -> rows.walkChange(4, 0, 0));
-        Due.isIllegal("walkChange what 3", rows, () -> rows.walkChange(3, 0, 3));
-        Due.isIllegal("walkChange what -1", rows, () -> rows.walkChange(3, 0, -1));
     }
 }

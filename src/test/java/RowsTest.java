@@ -42,11 +42,6 @@ public final class RowsTest {
         Due.is("lay again", 0, () -> rows.lay(1, 12));
         Due.is("lay again: zeros", "0 0 0 0 0 0 0 0 0 0 0 0", () -> rows.text(1));
         Due.is("lay: others stay", "0 0 0 0", () -> rows.text(0));
-        Due.isOutOfBounds("lay row 3", rows, () -> rows.lay(3, 4));
-        Due.isOutOfBounds("lay row -1", rows, () -> rows.lay(-1, 4));
-        Due.isOutOfBounds("lay row first", rows, () -> rows.lay(3, 13));
-        Due.isIllegal("lay 13", rows, () -> rows.lay(0, 13));
-        Due.isIllegal("lay -1", rows, () -> rows.lay(2, -1));
     }
 
     private static void layTakesParts() {
@@ -72,13 +67,6 @@ public final class RowsTest {
         Due.is("put over nothing", Due.NOTHING, () -> rows.put(2, 1, 0));
         Due.is("put is seen in the twin", "99 0 -99", () -> rows.text(2));
         Due.is("put is seen in the part", "0 -99", () -> rows.text(3));
-        Due.isOutOfBounds("put row 3", rows, () -> rows.put(3, 0, 0));
-        Due.isOutOfBounds("put row -1", rows, () -> rows.put(-1, 0, 0));
-        Due.isOutOfBounds("put place 3", rows, () -> rows.put(2, 3, 0));
-        Due.isOutOfBounds("put place -1", rows, () -> rows.put(2, -1, 100));
-        Due.isIllegal("put 100", rows, () -> rows.put(2, 0, 100));
-        Due.isIllegal("put -100", rows, () -> rows.put(2, 0, -100));
-        Due.isIllegal("put -1001", rows, () -> rows.put(2, 0, -1001));
     }
 
     private static void at() {
@@ -87,12 +75,6 @@ public final class RowsTest {
         Due.is("at nothing", Due.NOTHING, () -> rows.at(0, 1));
         rows.set(0, 1, 8);
         Due.is("at what the twin set", 8, () -> rows.at(0, 1));
-        Due.isOutOfBounds("at place 2", rows, () -> rows.at(0, 2));
-        Due.isOutOfBounds("at place -1", rows, () -> rows.at(0, -1));
-        Due.isOutOfBounds("at row 3", rows, () -> rows.at(3, 0));
-        Due.isOutOfBounds("at row -1", rows, () -> rows.at(-1, 0));
-        rows.part(3, 0, 0, 2);
-        Due.isOutOfBounds("at a part", rows, () -> rows.at(3, 0));
     }
 
     private static void part() {
@@ -102,17 +84,6 @@ public final class RowsTest {
         Due.is("part: whole", 5, () -> rows.part(6, 0, 0, 5));
         Due.is("part: empty at the end", 0, () -> rows.part(5, 0, 5, 5));
         Due.is("part: begin at the end", 5, () -> rows.begin(5));
-        Due.isOutOfBounds("part 2", rows, () -> rows.part(2, 0, 0, 0));
-        Due.isOutOfBounds("part 7", rows, () -> rows.part(7, 0, 0, 0));
-        Due.isOutOfBounds("part of list 4, not there", rows, () -> rows.part(3, 4, 0, 0));
-        Due.isOutOfBounds("part of itself, not there", rows, () -> rows.part(4, 4, 0, 0));
-        Due.isOutOfBounds("part of list 7", rows, () -> rows.part(3, 7, 0, 0));
-        Due.isOutOfBounds("part of list -1", rows, () -> rows.part(3, -1, 9, 0));
-        Due.isIllegal("part from -1", rows, () -> rows.part(3, 0, -1, 2));
-        Due.isIllegal("part to 6", rows, () -> rows.part(3, 0, 0, 6));
-        Due.isIllegal("part from 6", rows, () -> rows.part(3, 0, 6, 6));
-        Due.isIllegal("part from above to", rows, () -> rows.part(3, 0, 3, 2));
-        Due.isIllegal("part to above the part's end", rows, () -> rows.part(4, 3, 0, 4));
     }
 
     private static void partOfParts() {

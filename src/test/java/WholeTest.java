@@ -31,8 +31,6 @@ public final class WholeTest {
         Due.is("house: refusals", 2, () -> rows.house(1));
         Due.is("house: parts", 2, () -> rows.house(2));
         Due.is("house: places", 16, () -> rows.house(3));
-        Due.isIllegal("house 4", rows, () -> rows.house(4));
-        Due.isIllegal("house -1", rows, () -> rows.house(-1));
     }
 
     private static void rowOfAndBegin() {
@@ -48,10 +46,6 @@ public final class WholeTest {
         Due.is("begin of a part", 3, () -> rows.begin(3));
         Due.is("begin of a part's part", 7, () -> rows.begin(5));
         Due.is("begin, not there", Due.NONE, () -> rows.begin(6));
-        for (int list : new int[] {-1, 7, Integer.MIN_VALUE, Integer.MAX_VALUE}) {
-            Due.isIllegal("rowOf " + list, rows, () -> rows.rowOf(list));
-            Due.isIllegal("begin of " + list, rows, () -> rows.begin(list));
-        }
         rows.lay(2, 9);
         Due.is("rowOf, gone", Due.NONE, () -> rows.rowOf(3));
         Due.is("begin, gone", Due.NONE, () -> rows.begin(3));
